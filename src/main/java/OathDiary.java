@@ -1,5 +1,3 @@
-import java.util.Arrays;
-
 /** The diary of a thermometer that a miser thins under an oath. */
 public final class OathDiary {
     public static final int NONE = -1000000;
@@ -247,7 +245,7 @@ public final class OathDiary {
             case 0: return now.firstOf(stretch);
             case 1: return now.sizeOf(stretch);
             case 2: return now.keptOf(stretch);
-            case 3: return brokenOf(stretch);
+            case 3: return brokenAmong(now.firstOf(stretch), now.sizeOf(stretch));
             default: return thinner.fewestOf(stretch);
         }
     }
@@ -269,7 +267,7 @@ public final class OathDiary {
         switch (what) {
             case 0: return now.points;
             case 1: return now.keptPoints();
-            case 2: return brokenPoints();
+            case 2: return brokenAmong(0, now.points);
             case 3: return now.stretchCount();
             case 4: return now.notes;
             case 5: return trueNotes();
@@ -340,9 +338,8 @@ public final class OathDiary {
         if (point == NONE || what == 0) {
             return point;
         }
-        int before = now.earlierKept(point);
-        int behind = now.laterKept(point);
-        return lines.needFor(before, behind);
+        lines.findWorst(now.earlierKept(point), now.laterKept(point));
+        return roundedUp(lines.numerator, lines.denominator);
     }
 
     public double droppedShare() {
@@ -363,7 +360,15 @@ public final class OathDiary {
         hash = hashPoints(hash);
         hash = hashStretches(hash);
         hash = hashNotes(hash);
-        hash = hashWouldBe(hash);
+        for (int way = FAR; way <= FEW; way++) {
+            hash = 31 * hash + ifThinned(way);
+        }
+        hash = 31 * hash + leastOath(10);
+        hash = 31 * hash + cheapest(0);
+        hash = 31 * hash + cheapest(1);
+        hash = 31 * hash + area(false);
+        hash = 31 * hash + area(true);
+        hash = 31 * hash + bitsOf(droppedShare());
         return hashText(hash);
     }
 
@@ -453,24 +458,14 @@ public final class OathDiary {
 
     // ---- sums
 
-    private int brokenPoints() {
-        int many = 0;
-        for (int i = 0; i < now.points; i++) {
-            if (lines.isBroken(i)) {
-                many++;
+    private int brokenAmong(int first, int many) {
+        int broken = 0;
+        for (int i = 0; i < many; i++) {
+            if (lines.isBroken(first + i)) {
+                broken++;
             }
         }
-        return many;
-    }
-
-    private int brokenOf(int stretch) {
-        int many = 0;
-        for (int i = 0; i < now.points; i++) {
-            if (now.stretches[i] == stretch && lines.isBroken(i)) {
-                many++;
-            }
-        }
-        return many;
+        return broken;
     }
 
     private int trueNotes() {
@@ -555,19 +550,6 @@ public final class OathDiary {
         return hash;
     }
 
-    private long hashWouldBe(long start) {
-        long hash = start;
-        for (int way = FAR; way <= FEW; way++) {
-            hash = 31 * hash + ifThinned(way);
-        }
-        hash = 31 * hash + leastOath(10);
-        hash = 31 * hash + cheapest(0);
-        hash = 31 * hash + cheapest(1);
-        hash = 31 * hash + area(false);
-        hash = 31 * hash + area(true);
-        return 31 * hash + bitsOf(droppedShare());
-    }
-
     private long hashText(long start) {
         long hash = 31 * start + text.length;
         for (int i = 0; i < text.length; i++) {
@@ -624,7 +606,7 @@ public final class OathDiary {
         }
 
         boolean hasPoint(int point) {
-            return point >= 0 && point < points && point < MOST_POINTS;
+            return point >= 0 && point < points;
         }
 
         boolean isKept(int point) {
@@ -698,7 +680,7 @@ public final class OathDiary {
         }
 
         boolean sameStretch(int one, int other) {
-            return hasPoint(one) && hasPoint(other) && stretches[one] == stretches[other];
+            return one >= 0 && one < points && other >= 0 && other < points && stretches[one] == stretches[other];
         }
 
         boolean beginsStretch(int point) {
@@ -780,7 +762,7 @@ public final class OathDiary {
     /** Readings, and errors of points between two others of their stretch. */
     private static final class Lines {
         private final State state;
-        // what the latest find found
+        // the fraction that the latest find found
         int numerator;
         int denominator;
 
@@ -788,36 +770,22 @@ public final class OathDiary {
             this.state = state;
         }
 
-        /** The denominator of readings between two points. */
-        int spanOf(int one, int other) {
-            if (state.isStep() || !state.sameStretch(one, other)) {
-                return 1;
-            }
-            return state.times[other] - state.times[one];
-        }
-
-        /** The numerator, over the span, of the error that a point between two kept ones would have. */
-        int missOf(int one, int other, int point) {
-            if (!state.sameStretch(one, other) || !state.sameStretch(one, point)) {
-                return 0;
-            }
-            int rise = state.isStep() ? 0 : state.values[other] - state.values[one];
-            int above = state.values[point] - state.values[one];
-            return Math.abs(above * spanOf(one, other) - rise * (state.times[point] - state.times[one]));
-        }
-
-        /** The greatest miss between two points; as missOf, but told once more, as it is by far the most frequent sum. */
-        int greatestMiss(int one, int other) {
+        /** Finds the point between two others with the greatest error, if only these two were kept; NONE without any. */
+        int findWorst(int one, int other) {
+            numerator = 0;
+            denominator = 1;
             if (!state.sameStretch(one, other)) {
-                return 0;
+                return NONE;
             }
             int[] times = state.times;
             int[] values = state.values;
+            boolean step = state.isStep();
+            int span = step ? 1 : times[other] - times[one];
+            int rise = step ? 0 : values[other] - values[one];
             int time = times[one];
             int value = values[one];
-            int span = spanOf(one, other);
-            int rise = state.isStep() ? 0 : values[other] - value;
-            int greatest = 0;
+            int worst = NONE;
+            int greatest = -1;
             for (int i = one + 1; i < other; i++) {
                 int miss = (values[i] - value) * span - rise * (times[i] - time);
                 if (miss < 0) {
@@ -825,43 +793,44 @@ public final class OathDiary {
                 }
                 if (miss > greatest) {
                     greatest = miss;
+                    worst = i;
                 }
             }
-            return greatest;
-        }
-
-        /** The point with the greatest miss between two points. */
-        int worstPoint(int one, int other) {
-            int greatest = greatestMiss(one, other);
-            for (int i = one + 1; i < other; i++) {
-                if (missOf(one, other, i) == greatest) {
-                    return i;
-                }
-            }
-            return NONE;
-        }
-
-        boolean isWithin(int one, int other, int point) {
-            return missOf(one, other, point) <= state.settings[OATH] * spanOf(one, other);
+            numerator = Math.max(greatest, 0);
+            denominator = span;
+            return worst;
         }
 
         boolean canJoin(int one, int other) {
-            return state.sameStretch(one, other)
-                && greatestMiss(one, other) <= state.settings[OATH] * spanOf(one, other);
+            findWorst(one, other);
+            return state.sameStretch(one, other) && numerator <= state.settings[OATH] * denominator;
         }
 
-        /** The least oath with which two points of a stretch can be joined. */
-        int needFor(int one, int other) {
-            return roundedUp(greatestMiss(one, other), spanOf(one, other));
+        /** Finds the error that a point between two others would have, if only these two were kept. */
+        boolean findMiss(int one, int other, int point) {
+            numerator = 0;
+            denominator = 1;
+            if (!state.sameStretch(one, other) || !state.sameStretch(one, point)) {
+                return false;
+            }
+            boolean step = state.isStep();
+            int rise = step ? 0 : state.values[other] - state.values[one];
+            int above = state.values[point] - state.values[one];
+            denominator = step ? 1 : state.times[other] - state.times[one];
+            numerator = Math.abs(above * denominator - rise * (state.times[point] - state.times[one]));
+            return true;
+        }
+
+        boolean isWithin(int one, int other, int point) {
+            return findMiss(one, other, point) && numerator <= state.settings[OATH] * denominator;
         }
 
         boolean isBroken(int point) {
             if (state.isKept(point)) {
                 return false;
             }
-            int before = state.earlierKept(point);
-            int behind = state.laterKept(point);
-            return before == NONE || behind == NONE || !isWithin(before, behind, point);
+            boolean found = findMiss(state.earlierKept(point), state.laterKept(point), point);
+            return !found || numerator > state.settings[OATH] * denominator;
         }
 
         int reasonToKeep(int point) {
@@ -876,25 +845,24 @@ public final class OathDiary {
             return canJoin(before, behind) ? 0 : 3;
         }
 
+        /** Finds the error of a point, in lowest terms; false without a reading. */
         boolean findError(int point) {
-            numerator = 0;
-            denominator = 1;
             if (state.isKept(point)) {
+                numerator = 0;
+                denominator = 1;
                 return true;
             }
-            int before = state.earlierKept(point);
-            int behind = state.laterKept(point);
-            if (before == NONE || behind == NONE) {
-                return false;
-            }
-            shorten(missOf(before, behind, point), spanOf(before, behind));
-            return true;
+            boolean found = findMiss(state.earlierKept(point), state.laterKept(point), point);
+            shorten();
+            return found;
         }
 
+        /** Finds the reading at a time, in lowest terms; false without one. */
         boolean findReading(int time) {
             int place = state.placeOf(time);
             if (state.isKept(place) && state.times[place] == time) {
-                shorten(state.values[place], 1);
+                numerator = state.values[place];
+                denominator = 1;
                 return true;
             }
             int before = state.keptBelow(place);
@@ -902,9 +870,11 @@ public final class OathDiary {
             if (!state.sameStretch(before, behind)) {
                 return false;
             }
-            int span = spanOf(before, behind);
-            int rise = state.isStep() ? 0 : state.values[behind] - state.values[before];
-            shorten(state.values[before] * span + rise * (time - state.times[before]), span);
+            boolean step = state.isStep();
+            int rise = step ? 0 : state.values[behind] - state.values[before];
+            denominator = step ? 1 : state.times[behind] - state.times[before];
+            numerator = state.values[before] * denominator + rise * (time - state.times[before]);
+            shorten();
             return true;
         }
 
@@ -915,40 +885,40 @@ public final class OathDiary {
             return Math.abs(state.noteValues[note] * denominator - numerator) <= state.settings[OATH] * denominator;
         }
 
-        /** The point that can be dropped with the least greatest error; NONE if there is none. */
+        /** The point that can be dropped with the least greatest error between its neighbors; NONE without any. */
         int leastMissed() {
             int best = NONE;
-            long bestMiss = 0;
-            long bestSpan = 1;
+            long bestTop = 0;
+            long bestBottom = 1;
             for (int i = 0; i < state.points; i++) {
                 if (reasonToKeep(i) == 0) {
-                    int before = state.earlierKept(i);
-                    int behind = state.laterKept(i);
-                    long miss = greatestMiss(before, behind);
-                    long span = spanOf(before, behind);
-                    if (best == NONE || miss * bestSpan < bestMiss * span) {
+                    findWorst(state.earlierKept(i), state.laterKept(i));
+                    long top = numerator;
+                    long bottom = denominator;
+                    // long, for across two spans the products outgrow an int
+                    if (best == NONE || top * bestBottom < bestTop * bottom) {
                         best = i;
-                        bestMiss = miss;
-                        bestSpan = span;
+                        bestTop = top;
+                        bestBottom = bottom;
                     }
                 }
             }
             return best;
         }
 
-        private void shorten(int top, int bottom) {
-            int divisor = commonDivisor(Math.abs(top), bottom);
+        private void shorten() {
+            int divisor = commonDivisor(Math.abs(numerator), denominator);
             if (divisor > 0) {
-                numerator = top / divisor;
-                denominator = bottom / divisor;
+                numerator /= divisor;
+                denominator /= divisor;
             }
         }
 
         private static int commonDivisor(int one, int other) {
             int greater = one;
             int lesser = other;
-            // Euclid takes below 50 turns for any two ints
-            for (int turn = 0; turn < 100 && lesser != 0; turn++) {
+            // Euclid takes fewer than 50 turns for any two ints
+            for (int turn = 0; turn < 50 && lesser != 0; turn++) {
                 int rest = greater % lesser;
                 greater = lesser;
                 lesser = rest;
@@ -962,9 +932,9 @@ public final class OathDiary {
         private final State state;
         private final Lines lines;
         final int[] chosen = new int[MOST_POINTS];
-        // from each point to the end of its stretch, both kept: the fewest points
+        // from each point to the last one of its stretch, both kept: the fewest points
         private final int[] fewest = new int[MOST_POINTS];
-        // for each two points of a stretch the least oath that joins them; kept over calls, as it costs most of all
+        // for each two points of a stretch the least oath that joins them; kept over calls, for it costs most of all
         private final int[] needs = new int[MOST_POINTS * MOST_POINTS];
         private boolean fresh;
 
@@ -982,7 +952,7 @@ public final class OathDiary {
             findNeeds();
             int oath = state.settings[OATH];
             if (way == FEW) {
-                fewestWith(oath);
+                findFewest(oath);
             }
             for (int i = 0; i < state.points; i++) {
                 chosen[i] = state.beginsStretch(i) || state.endsStretch(i) ? 1 : 0;
@@ -991,61 +961,56 @@ public final class OathDiary {
             for (int i = 0; i < state.points; i++) {
                 if (chosen[i] == 1) {
                     many++;
-                    chooseBehind(i, way, oath);
+                    if (way == HALVES) {
+                        halveBehind(i, oath);
+                    } else {
+                        joinBehind(i, way, oath);
+                    }
                 }
             }
             return many;
         }
 
         int fewestOf(int stretch) {
-            fewestWith(state.settings[OATH]);
+            findNeeds();
+            findFewest(state.settings[OATH]);
             int first = state.firstOf(stretch);
             return state.hasPoint(first) ? fewest[first] : 0;
         }
 
         /** Finds the least oath, 0 to 511, that keeps at most so many points; a greater oath never keeps more. */
         int leastOathFor(int many) {
+            findNeeds();
             int least = 0;
             for (int step = 256; step > 0; step /= 2) {
-                if (fewestWith(least + step - 1) > many) {
+                if (findFewest(least + step - 1) > many) {
                     least += step;
                 }
             }
             return least;
         }
 
-        private void chooseBehind(int point, int way, int oath) {
-            if (state.endsStretch(point)) {
-                return;
-            }
-            if (way == HALVES) {
-                halveBehind(point, oath);
-                return;
-            }
-            int next = latestBehind(point, way, oath);
-            if (state.hasPoint(next)) {
-                chosen[next] = 1;
-            }
-        }
-
-        private int latestBehind(int point, int way, int oath) {
+        /** Chooses the latest point that this one can be joined with, by way few of those that lead to the fewest. */
+        private void joinBehind(int point, int way, int oath) {
             int latest = NONE;
             for (int i = point + 1; i < state.points && state.sameStretch(point, i); i++) {
-                if (joins(point, i, oath) && (way == FAR || fewest[i] + 1 == fewest[point])) {
+                if (needs[cell(point, i)] <= oath && (way == FAR || fewest[i] + 1 == fewest[point])) {
                     latest = i;
                 }
             }
-            return latest;
+            if (state.hasPoint(latest)) {
+                chosen[latest] = 1;
+            }
         }
 
-        /** Chooses points until this one can be joined with the chosen one behind it. */
+        /** Chooses points until this one can be joined with the chosen one next to it. */
         private void halveBehind(int point, int oath) {
             for (int turn = 0; turn < MOST_POINTS; turn++) {
                 int next = chosenBehind(point);
-                if (joins(point, next, oath)) {
+                if (!state.sameStretch(point, next) || needs[cell(point, next)] <= oath) {
                     return;
                 }
-                int worst = lines.worstPoint(point, next);
+                int worst = lines.findWorst(point, next);
                 if (!state.hasPoint(worst)) {
                     return;
                 }
@@ -1062,16 +1027,17 @@ public final class OathDiary {
             return NONE;
         }
 
-        private boolean joins(int one, int other, int oath) {
-            return state.sameStretch(one, other) && needs[one * MOST_POINTS + other] <= oath;
+        private static int cell(int one, int other) {
+            boolean good = one >= 0 && one < MOST_POINTS && other >= 0 && other < MOST_POINTS;
+            return good ? one * MOST_POINTS + other : 0;
         }
 
         /** Fills fewest, and returns the fewest points of all stretches. */
-        private int fewestWith(int oath) {
-            findNeeds();
+        private int findFewest(int oath) {
             int sum = 0;
-            for (int i = Math.min(state.points, MOST_POINTS) - 1; i >= 0; i--) {
-                fewest[i] = 1 + fewestBehind(i, oath);
+            for (int i = state.points - 1; i >= 0; i--) {
+                int behind = fewestBehind(i, oath);
+                fewest[i] = behind + 1;
                 if (state.beginsStretch(i)) {
                     sum += fewest[i];
                 }
@@ -1080,11 +1046,13 @@ public final class OathDiary {
         }
 
         private int fewestBehind(int point, int oath) {
-            int end = state.points;
+            if (!state.hasPoint(point)) {
+                return 0;
+            }
             int own = state.stretches[point];
             int row = point * MOST_POINTS;
             int least = 0;
-            for (int i = point + 1; i < end && state.stretches[i] == own; i++) {
+            for (int i = point + 1; i < state.points && state.stretches[i] == own; i++) {
                 if (needs[row + i] <= oath && (least == 0 || fewest[i] < least)) {
                     least = fewest[i];
                 }
@@ -1096,10 +1064,10 @@ public final class OathDiary {
             if (fresh) {
                 return;
             }
-            Arrays.fill(needs, 0);
             for (int i = 0; i < state.points; i++) {
                 for (int j = i + 1; j < state.points && state.sameStretch(i, j); j++) {
-                    needs[i * MOST_POINTS + j] = lines.needFor(i, j);
+                    lines.findWorst(i, j);
+                    needs[cell(i, j)] = roundedUp(lines.numerator, lines.denominator);
                 }
             }
             fresh = true;
