@@ -1,101 +1,7 @@
 import java.util.Arrays;
 
 /** For each promise of the document: ordinary inputs, edges, and wrong inputs. */
-public final class PromiseTest {
-    private static final int NONE = OathDiary.NONE;
-    private static final Class<?> INDEX = IndexOutOfBoundsException.class;
-    private static final Class<?> ARGUMENT = IllegalArgumentException.class;
-    private static final Class<?> STATE = IllegalStateException.class;
-
-    private static int wrong;
-    private static int checks;
-
-    private interface Call {
-        long answer();
-    }
-
-    private static void due(String what, long want, long got) {
-        checks++;
-        if (got != want) {
-            wrong++;
-            System.out.println(what + ": answered " + got + ", due is " + want);
-        }
-    }
-
-    /** The call throws exactly this, and changes nothing. */
-    private static void refused(String what, OathDiary x, Class<?> want, Call call) {
-        checks++;
-        long before = x.digest();
-        Class<?> got = null;
-        try {
-            call.answer();
-        } catch (RuntimeException e) {
-            got = e.getClass();
-        }
-        if (got != want) {
-            wrong++;
-            System.out.println(what + ": threw " + got + ", due is " + want);
-        }
-        due(what + ", the state after it", before, x.digest());
-    }
-
-    private static OathDiary diary(int... timesAndValues) {
-        OathDiary x = new OathDiary();
-        for (int i = 0; i < timesAndValues.length; i += 2) {
-            x.add(timesAndValues[i], timesAndValues[i + 1]);
-        }
-        return x;
-    }
-
-    /** A diary whose first point is dropped, and whose last one is, too, each in a stretch of its own with a kept one. */
-    private static OathDiary droppedAtBothEnds() {
-        OathDiary x = diary(0, 0, 20, 0, 30, 0, 50, 0, 60, 0, 80, 0);
-        x.drop(1);
-        x.drop(4);
-        x.set(1, 10);
-        x.tear(0);
-        x.tear(2);
-        return x;
-    }
-
-    private static OathDiary full() {
-        OathDiary x = new OathDiary();
-        for (int i = 0; i < 60; i++) {
-            x.add(i * 10, 0);
-        }
-        return x;
-    }
-
-    private static void write(OathDiary x, String text) {
-        for (int i = 0; i < text.length(); i++) {
-            x.append(text.charAt(i));
-        }
-    }
-
-    private static String kept(OathDiary x) {
-        StringBuilder row = new StringBuilder();
-        for (int i = 0; i < x.count(0); i++) {
-            row.append(x.point(i, 2));
-        }
-        return row.toString();
-    }
-
-    private static void dueText(String what, String want, String got) {
-        checks++;
-        if (!got.equals(want)) {
-            wrong++;
-            System.out.println(what + ": is " + got + ", due is " + want);
-        }
-    }
-
-    private static long hash(long... values) {
-        long hash = 2381;
-        for (long value : values) {
-            hash = 31 * hash + value;
-        }
-        return hash;
-    }
-
+public final class PromiseTest extends Checks {
     private static void newObject() {
         OathDiary x = new OathDiary();
         due("NONE", -1000000, NONE);
@@ -922,43 +828,9 @@ public final class PromiseTest {
             x.thin(0);
             for (int dropped = points - 2; dropped > 0; dropped--) {
                 x.keep(dropped);
-                due("31: " + (dropped - 1) + " of " + points, hash(valuesOf(x)), x.digest());
+                due("31: " + (dropped - 1) + " of " + points, hash(valuesOf(x, "")), x.digest());
             }
         }
-    }
-
-    private static long[] valuesOf(OathDiary x) {
-        long[] row = new long[800];
-        int end = 0;
-        for (int what = 0; what <= 10; what++) {
-            row[end++] = x.count(what);
-        }
-        for (int i = 0; i <= 2; i++) {
-            row[end++] = x.setting(i);
-        }
-        for (int i = 0; i < x.count(0); i++) {
-            for (int what = 0; what <= 7; what++) {
-                row[end++] = x.point(i, what);
-            }
-            row[end++] = x.error(i, 0);
-            row[end++] = x.error(i, 1);
-        }
-        for (int i = 0; i < x.count(3); i++) {
-            for (int what = 0; what <= 4; what++) {
-                row[end++] = x.stretch(i, what);
-            }
-        }
-        for (int way = 0; way <= 2; way++) {
-            row[end++] = x.ifThinned(way);
-        }
-        row[end++] = x.leastOath(10);
-        row[end++] = x.cheapest(0);
-        row[end++] = x.cheapest(1);
-        row[end++] = x.area(false);
-        row[end++] = x.area(true);
-        row[end++] = Double.doubleToLongBits(x.droppedShare());
-        row[end++] = 0;
-        return Arrays.copyOf(row, end);
     }
 
     public static void main(String[] args) {
@@ -993,9 +865,6 @@ public final class PromiseTest {
         cheapest();
         droppedShare();
         digest();
-        System.out.println(wrong == 0 ? checks + " checks are as due" : wrong + " of " + checks + " checks are not as due");
-        if (wrong != 0) {
-            System.exit(1);
-        }
+        end();
     }
 }
