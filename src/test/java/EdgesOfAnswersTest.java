@@ -514,7 +514,9 @@ public final class EdgesOfAnswersTest extends Checks {
         due("1 for 1/2", 1, values(0, 1, 1).leastOath(2));
         due("1 for 1", 1, values(0, 1, 0).leastOath(2));
         due("2 for 3/2", 2, values(0, 2, 1).leastOath(2));
-        due("499", 499, values(0, 499, 0).leastOath(2));
+        for (int oath = 0; oath <= 499; oath++) {
+            due("" + oath, oath, values(0, oath, 0).leastOath(2));
+        }
         due("500 for 999/2", 500, values(0, 500, 1).leastOath(2));
         due("500", 500, values(0, 500, 0).leastOath(2));
         due("500 below", 500, values(0, -500, 0).leastOath(2));
@@ -560,6 +562,7 @@ public final class EdgesOfAnswersTest extends Checks {
         due("5/2", 3, values(0, 3, 1).cheapest(1));
         due("as great as the oath", 10, values(0, 10, 0).cheapest(1));
         due("the point itself", 7, dropped.cheapest(1));
+        due("another one would be 6 off", 4, values(0, 4, 0, 6, 0).cheapest(1));
         dropped.drop(5);
         due("the greatest one, not its own", 2, dropped.cheapest(0));
         due("is that of a dropped one", 8, dropped.cheapest(1));

@@ -362,11 +362,12 @@ public final class EdgesOfChangesTest extends Checks {
         section("Promise 11: strike");
         sentence("Strikes out all notes that are true; the others stay in their order.");
         OathDiary x = values(0, 0);
-        for (int value : new int[] {10, 11, 12, -10, 0, -11, -12, 5}) {
-            x.note(5, value);
+        int[] noted = {10, 11, 12, -10, 0, -11, -12, 5};
+        for (int i = 0; i < 8; i++) {
+            x.note(i, noted[i]);
         }
         x.strike();
-        dueText("the others", "5:11 5:12 5:-11 5:-12", notes(x));
+        dueText("the others", "1:11 2:12 5:-11 6:-12", notes(x));
         sentence("Undoable.");
         x.undo();
         due("undone", 8, x.count(4));
@@ -451,6 +452,12 @@ public final class EdgesOfChangesTest extends Checks {
         write(x, "1:1,2:2,50:5");
         refused("none", x, STATE, () -> x.addAll());
         due("not cleared", 12, x.clearBuffer());
+        OathDiary gap = diary(0, 0, 200, 0);
+        due("two stretches", 2, gap.ifThinned(0));
+        write(gap, "100:40");
+        gap.addAll();
+        due("one stretch", 1, gap.count(3));
+        due("the point in the gap cannot be dropped", 3, gap.ifThinned(0));
         sentence("Undoable, as one call.");
         OathDiary y = values(0, 0);
         write(y, "30:3,20:2,40:4");

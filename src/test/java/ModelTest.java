@@ -893,6 +893,8 @@ public final class ModelTest {
         final int times;
         final int swing;
         final boolean smooth;
+        // times and values of few kinds: errors alike, errors as great as the oath, times as long as setting 1
+        final boolean coarse;
         int calls;
         boolean ended;
 
@@ -902,6 +904,7 @@ public final class ModelTest {
             times = new int[] {40, 120, 600, 3000, 10000}[numbers.below(5)];
             swing = new int[] {3, 12, 40, 200, 999}[numbers.below(5)];
             smooth = numbers.in(2);
+            coarse = numbers.in(3);
         }
 
         String call(String name, int a, int b) {
@@ -921,10 +924,16 @@ public final class ModelTest {
         }
 
         int time() {
+            if (coarse) {
+                return Math.min(9999, numbers.below(70) * (times / 40));
+            }
             return numbers.below(times);
         }
 
         int value(int time) {
+            if (coarse) {
+                return numbers.from(-2, 2) * (swing / 2);
+            }
             int wave = smooth ? (int) (300 * Math.sin(time * 6.0 / times)) : 0;
             return Math.max(-999, Math.min(999, wave + numbers.from(-swing, swing)));
         }
@@ -953,8 +962,8 @@ public final class ModelTest {
 
         void change(int setting) {
             switch (setting) {
-                case 0: call("set", 0, numbers.in(3) ? numbers.below(501) : numbers.below(30)); break;
-                case 1: call("set", 1, numbers.from(1, Math.min(2000, 1 + times / 5))); break;
+                case 0: call("set", 0, coarse ? numbers.below(5) * (swing / 4) : numbers.in(3) ? numbers.below(501) : numbers.below(30)); break;
+                case 1: call("set", 1, coarse ? numbers.from(1, 8) * (times / 40) : numbers.from(1, Math.min(2000, 1 + times / 5))); break;
                 case 2: call("set", 1, numbers.from(1, 2000)); break;
                 default: call("set", 2, numbers.below(2)); break;
             }
@@ -979,7 +988,7 @@ public final class ModelTest {
         }
 
         void fill() {
-            int many = numbers.below(60);
+            int many = numbers.in(3) ? 100 : numbers.below(60);
             for (int i = 0; i < many; i++) {
                 int time = time();
                 call("add", time, value(time));

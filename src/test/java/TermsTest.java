@@ -135,6 +135,7 @@ public final class TermsTest extends Checks {
         dueText("the last point is dropped", "NONE", reading(droppedAtBothEnds(), 55));
         dueText("an empty diary, at the least time", "NONE", reading(new OathDiary(), 0));
         dueText("an empty diary, at the greatest time", "NONE", reading(new OathDiary(), 9999));
+        dueText("behind 60 points", "NONE", reading(full(), 591));
         sentence("0: the value on the line from a to b at this time (a fraction); 1: the value of a.");
         OathDiary y = values(3, -4, 10);
         dueText("just behind a, on the line", "23/10", reading(y, 1));
@@ -279,6 +280,11 @@ public final class TermsTest extends Checks {
         deep.set(0, 5);
         deep.thin(1);
         dueText("both halves", "1111011", kept(deep));
+        // 2 and 3 are alike, 40 off; 0 to 2 errs by 10 at 1; 2 to 5 errs most at 4, and 2 to 4 by 5
+        OathDiary near = values(0, 30, 40, 40, 30, 0);
+        near.set(0, 9);
+        near.thin(1);
+        dueText("nothing more behind points next to each other", "111011", kept(near));
         sentence("2, few: the fewest points are kept so that each two kept points that follow one another can be joined;");
         // 0 reaches 3, from where 5 errs by 10 at 4; but from 2 it errs by 20/3 at 3 and 4
         OathDiary few = values(0, 10, 20, 20, 0, 0);
@@ -476,8 +482,27 @@ public final class TermsTest extends Checks {
         return x.addAll();
     }
 
-    /** Undo brings back points, what is kept, notes, settings, and how much was thinned and torn. */
+    /** Undo brings back points, stretches, what is kept, notes, settings, and how much was thinned and torn. */
     private static void everything() {
+        OathDiary gaps = diary(0, 0, 50, 60, 100, 0);
+        gaps.set(1, 49);
+        due("three stretches", 2, gaps.point(2, 4));
+        due("each point alone", 3, gaps.ifThinned(2));
+        gaps.undo();
+        due("one stretch", 0, gaps.point(2, 4));
+        due("no stretch 1", 1, gaps.count(3));
+        gaps.correct(1, 0);
+        due("on a line", 2, gaps.ifThinned(2));
+        gaps.undo();
+        due("not on a line", 3, gaps.ifThinned(2));
+        OathDiary heir = values(0, 0);
+        heir.note(1, 0);
+        heir.note(2, 99);
+        heir.note(3, 98);
+        heir.strike();
+        dueText("left", "2:99 3:98", notes(heir));
+        heir.undo();
+        dueText("all notes", "1:0 2:99 3:98", notes(heir));
         OathDiary x = diary(0, 1, 10, 2, 20, 3, 500, 4);
         x.thin(0);
         x.note(5, 6);
